@@ -57,6 +57,15 @@ final class Check {
         return debts;
     }
 
+    static Oracle oracleOf(String text) {
+        Oracle oracle = new Oracle();
+        oracle.tell(text);
+        if (oracle.land() < 1) {
+            throw new IllegalStateException("no land: " + text);
+        }
+        return oracle;
+    }
+
     private static int four(byte[] bytes, int at) {
         return (bytes[at] & 255) << 24 | (bytes[at + 1] & 255) << 16 | (bytes[at + 2] & 255) << 8 | bytes[at + 3] & 255;
     }

@@ -53,6 +53,10 @@ final class MarketTest {
         CHECK.same("a LOAN that was paid", x.loan(0, 0), -1);
         CHECK.same("the least free number is taken anew", x.lend(1, 1, 1, 0), 0);
         loan(x, 0, 0, 1, 1, 1, 1, 8);
+        CHECK.same("LOANS of 1 count", x.market(1), 3);
+        CHECK.same("and what is owed of them", x.market(2), 65 + 25 + 1);
+        x.go(4);
+        CHECK.same("and they are paid", x.loan(0, 0), -1);
     }
 
     private static void loansAreRefused() {

@@ -77,6 +77,11 @@ final class Oracle {
     private final List<int[]> book = new ArrayList<>();
     private final Map<Integer, Fair> images = new HashMap<>();
 
+    /** A text at once, in place of many calls of feed. */
+    void tell(String whole) {
+        text = whole;
+    }
+
     int feed(int a, int b, int c, int d, int e) {
         if (text.length() > 480) {
             return -1;

@@ -10,6 +10,7 @@ final class SowingTest {
         lentAsFarAsItGoes();
         moons();
         bestLawStrikes();
+        bestLawAtTheEdges();
         gains();
         CHECK.finish();
     }
@@ -53,14 +54,17 @@ final class SowingTest {
         // 500 and 93: 181 times 593 is 107333, 180 times 593 is 106740.
         CHECK.same("BACK of a small WORD", x.back(4, 0, 0), 593);
         CHECK.same("LEAST PRICE of 593", x.back(4, 0, 1), 81);
-        MoonDebts edge = Check.landOf("moon 30 0;strike 13 1;sort a 1 1 1 31 99 1;wait 0;");
-        // 187 of 1000 and 813 * 1 / 16 = 50 more: 237, 422 times 237 by 1000 is 100.
-        CHECK.same("BACK at the edge", edge.back(0, 0, 0), 237);
-        CHECK.same("LEAST PRICE at the edge", edge.back(0, 0, 1), 322);
-        MoonDebts last = Check.landOf("moon 5 0;strike 4 1;sort a 1 1 1 31 99 1;wait 11;");
-        // 1000, 750, 562, 421, 315, 236, 177 and 823 / 16 = 51 more: 228; 134 needs 588 of 500.
-        CHECK.same("BACK beyond the edge", last.back(0, 0, 0), 228);
-        CHECK.same("LEAST PRICE beyond 400", last.back(0, 0, 1), -1);
+        // All is struck, a quarter is back by WORD: 125 need 500, 126 need 504.
+        MoonDebts edge = Check.landOf("moon 30 0;wait 5;sort a 1 1 1 50 99 4;sort b 1 1 1 52 99 4;");
+        CHECK.same("BACK of a quarter", edge.back(0, 0, 0), 250);
+        CHECK.same("LEAST PRICE at the edge", edge.back(0, 0, 1), 400);
+        CHECK.same("LEAST PRICE beyond the edge", edge.back(1, 0, 1), -1);
+        CHECK.same("a price of 400 is lent at", edge.lent(0, 0), 1);
+        CHECK.same("none is not", edge.lent(1, 0), 0);
+        // 322 and 100 times 237 by 1000 is 100 (cut), 321 and 100 is 99.
+        MoonDebts cut = Check.landOf("moon 30 0;strike 13 1;sort a 1 1 1 31 99 1;");
+        CHECK.same("BACK of 187 and 50", cut.back(0, 0, 0), 237);
+        CHECK.same("LEAST PRICE of 237", cut.back(0, 0, 1), 322);
     }
 
     private static void lentByTheDifference() {
@@ -134,6 +138,24 @@ final class SowingTest {
         CHECK.same("best(1)", z.best(1), 1);
         CHECK.same("S 1", z.moon(1, 1, 1), 150);
         CHECK.same("S 2", z.moon(2, 1, 1), 160);
+    }
+
+    private static void bestLawAtTheEdges() {
+        // a (LEAST PRICE 230, MOST 245) must be struck, c (205, 210) must not, or b (300, 310) is left with COIN over:
+        // night 45 alone is within the 46 nights of a and not within the 41 of c.
+        MoonDebts seldom = Check.landOf("moon 5 0;wait 50;sort r 2 50 0 1 0 0;sort a 3 0 40 46 98 0;sort b 3 0 30 60 93 16;"
+            + "sort c 1 0 10 41 21 0;");
+        CHECK.same("S of E 9", seldom.best(0), 1);
+        CHECK.same("E 9", seldom.best(1), 9);
+        CHECK.same("YIELD of E 9", seldom.best(2), 5 * (279 + 21));
+        CHECK.same("YIELD of E 8", seldom.moon(1, 8, 1), 5 * 279);
+        CHECK.same("YIELD without", seldom.moon(0, 1, 1), 5 * 245);
+        // Up to S 15 a can be lent to at 166, with a difference of 0 like that of c, who comes behind it.
+        MoonDebts whole = Check.landOf("moon 30 15;wait 50;sort r 2 50 0 1 0 0;sort a 2 0 50 30 83 0;sort c 3 0 49 40 98 16;");
+        CHECK.same("S 16", whole.best(0), 16);
+        CHECK.same("E of S 16", whole.best(1), 1);
+        CHECK.same("YIELD of S 16", whole.best(2), 166 + 29 * 200);
+        CHECK.same("YIELD of S 15", whole.moon(15, 1, 1), 30 * 166);
     }
 
     private static void gains() {

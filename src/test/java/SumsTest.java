@@ -18,6 +18,7 @@ final class SumsTest {
         CHECK.same("holds(15, 5, 12)", x.holds(15, 5, 12), 1);
         CHECK.same("holds(16, 5, 12)", x.holds(16, 5, 12), 0);
         CHECK.same("holds(9999, 999, 15)", x.holds(9999, 999, 15), 1);
+        CHECK.same("holds(1, 0, 15)", x.holds(1, 0, 15), 0);
         CHECK.same("holds(1, 999, 0)", x.holds(1, 999, 0), 0);
         int[][] bad = {{0, 5, 5}, {10000, 5, 5}, {-1, 5, 5}, {5, -1, 5}, {5, 1000, 5}, {5, 5, -1}, {5, 5, 16}};
         for (int[] b : bad) {
@@ -93,6 +94,8 @@ final class SumsTest {
         CHECK.same("shrunk(100, 500, 8, 1)", x.shrunk(100, 500, 8, 1), 50);
         CHECK.same("shrunk(100, 500, 8, 2)", x.shrunk(100, 500, 8, 2), 30);
         CHECK.same("shrunk(100, 500, 8, 3)", x.shrunk(100, 500, 8, 3), 21);
+        CHECK.same("shrunk(100, 100, 0, 1)", x.shrunk(100, 100, 0, 1), 0);
+        CHECK.same("shrunk(0, 2000, 16, 19)", x.shrunk(0, 2000, 16, 19), 0);
         CHECK.same("shrunk(100, 502, 0, 2)", x.shrunk(100, 502, 0, 2), 100);
         CHECK.same("shrunk(100, 502, 0, 3)", x.shrunk(100, 502, 0, 3), 0);
         CHECK.same("shrunk(100, 502, 0, 40)", x.shrunk(100, 502, 0, 40), 0);

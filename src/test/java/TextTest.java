@@ -12,6 +12,7 @@ final class TextTest {
         faultsOfKinds();
         faultsOfTooMany();
         landTakesThePlace();
+        lotsBeginAnew();
         sortsAreTold();
         counts();
         CHECK.finish();
@@ -142,6 +143,7 @@ final class TextTest {
         fault("sort 1 1 1 1 1 1 1;", 5);
         fault("sort abcdefghi 1 1 1 1 1 1;", 5);
         fault("moon 5 0;sort abcdefgh 1 1 1 1 1 1;", -1);
+        fault("moon 5 0;sort zazz 1 1 1 1 1 1;", -1);
         for (String word : Oracle.LINES) {
             fault("sort " + word + " 1 1 1 1 1 1;", 5);
         }
@@ -194,7 +196,10 @@ final class TextTest {
         CHECK.same("lend(1, 0, 5, 0)", x.lend(1, 0, 5, 0), 0);
         CHECK.same("go(1)", x.go(1), 1);
         CHECK.same("entry(0, 1, 1000)", x.entry(0, 1, 1000), 1);
+        CHECK.yes("image(0)", x.image(0));
         CHECK.yes("image(1)", x.image(1));
+        CHECK.yes("image(2)", x.image(2));
+        CHECK.yes("seed(99)", x.seed(99));
         Check.text(x, "moon 5 0;sort a");
         CHECK.same("land() with a FAULT", x.land(), -1);
         CHECK.same("the LAND ahead stays", x.count(2), 7);
@@ -216,7 +221,26 @@ final class TextTest {
         CHECK.same("LOANS", x.market(1), 0);
         CHECK.same("heap", x.market(10), 1);
         CHECK.same("a heap of the LAND ahead", x.market(11), -1);
-        CHECK.no("no images", x.on(1));
+        CHECK.no("no image 0", x.on(0));
+        CHECK.no("no image 1", x.on(1));
+        CHECK.no("no image 2", x.on(2));
+    }
+
+    private static void lotsBeginAnew() {
+        String text = "moon 5 8;strike 8 1;sort a 1 99 0 5 0 0;sort b 1 0 9 60 9 8;";
+        MoonDebts x = Check.landOf("wait 9;" + text);
+        x.seed(1234);
+        x.go(50);
+        Check.text(x, text);
+        x.land();
+        CHECK.same("no wait is told any more", x.back(1, 0, 1), Check.landOf(text).back(1, 0, 1));
+        MoonDebts y = Check.landOf(text);
+        for (int i = 0; i < 10; i++) {
+            x.lend(1, 0, 9, 100);
+            y.lend(1, 0, 9, 100);
+            CHECK.same("go(5)", x.go(5), y.go(5));
+            CHECK.same("LOST by lots from 0 on", x.market(3), y.market(3));
+        }
     }
 
     private static void sortsAreTold() {
