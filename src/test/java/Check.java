@@ -5,13 +5,19 @@ import java.util.Arrays;
 final class Check {
     private int calls = 0;
     private int wrong = 0;
+    private String sentence = "";
+
+    /** The document's sentence that the answers from here on are about. */
+    void about(String quoted) {
+        sentence = quoted + " | ";
+    }
 
     void same(String call, long got, long due) {
         calls++;
         if (got != due) {
             wrong++;
             if (wrong <= 50) {
-                System.out.println(call + " answered " + got + ", due is " + due);
+                System.out.println(sentence + call + " answered " + got + ", due is " + due);
             }
         }
     }
@@ -55,6 +61,27 @@ final class Check {
             throw new IllegalStateException("no land: " + text);
         }
         return debts;
+    }
+
+    /** So many LINES of SORTS (at most 26), with the NAMES a, b, .. */
+    static String sorts(int many) {
+        StringBuilder lines = new StringBuilder();
+        for (int i = 0; i < many; i++) {
+            lines.append("sort ").append((char) ('a' + i)).append(" 1 1 1 1 1 1;");
+        }
+        return lines.toString();
+    }
+
+    /** So many LINES of TURNS (at most 20), no couple twice, each for so much. */
+    static String turns(int many, int cost) {
+        StringBuilder lines = new StringBuilder();
+        for (int i = 0; i < many; i++) {
+            int from = i / 4;
+            int to = i % 4 < from ? i % 4 : i % 4 + 1;
+            lines.append("turn ").append(Oracle.KINDS.get(from)).append(' ').append(Oracle.KINDS.get(to));
+            lines.append(' ').append(cost).append(';');
+        }
+        return lines.toString();
     }
 
     static Oracle oracleOf(String text) {

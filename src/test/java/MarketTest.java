@@ -159,20 +159,6 @@ final class MarketTest {
         CHECK.same("a has nothing", y.market(10), 0);
     }
 
-    /** Lots by the document's rule, in longs. */
-    private static final class Lots {
-        private long x;
-
-        private Lots(int seed) {
-            x = seed;
-        }
-
-        private int below16() {
-            x = (x * 1103515245L + 12345L) & 0x7fffffffL;
-            return (int) (x / 256 % 16);
-        }
-    }
-
     private static void lotsDecide() {
         for (int seed = 0; seed <= 1000000; seed += 33333) {
             MoonDebts x = Check.landOf("moon 5 0;strike 4 1;sort a 1 99 0 5 0 0;sort b 1 0 9 60 9 7;sort c 1 0 9 60 9 12;");

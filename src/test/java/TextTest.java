@@ -175,19 +175,11 @@ final class TextTest {
         fault("moon 5 0;moon", 9);
         fault("wait 0;wait 0;", 7);
         fault("strike 0 1;strike 0 1;", 11);
-        StringBuilder six = new StringBuilder("moon 5 0;");
-        for (int i = 0; i < 6; i++) {
-            six.append("sort ").append((char) ('a' + i)).append(" 1 1 1 1 1 1;");
-        }
-        fault(six.toString(), -1);
+        String six = "moon 5 0;" + Check.sorts(6);
+        fault(six, -1);
         fault(six + "sort a", six.length());
-        StringBuilder twelve = new StringBuilder(SMALL);
-        for (int i = 0; i < 12; i++) {
-            int from = i / 4;
-            int to = i % 4 < from ? i % 4 : i % 4 + 1;
-            twelve.append("turn ").append(Oracle.KINDS.get(from)).append(' ').append(Oracle.KINDS.get(to)).append(" 1;");
-        }
-        fault(twelve.toString(), -1);
+        String twelve = SMALL + Check.turns(12, 1);
+        fault(twelve, -1);
         fault(twelve + "turn gift loan 1;", twelve.length());
     }
 
