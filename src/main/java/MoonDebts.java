@@ -142,20 +142,14 @@ public final class MoonDebts {
     }
 
     public int best(int what) {
-        if (!landed) {
+        if (!landed || !isIn(what, 0, 2)) {
             return NONE;
         }
         sowing.seekBest(land);
-        switch (what) {
-            case 0:
-                return sowing.bestStruck;
-            case 1:
-                return sowing.bestEvery;
-            case 2:
-                return sowing.bestYield;
-            default:
-                return NONE;
+        if (what == 0) {
+            return sowing.bestStruck;
         }
+        return what == 1 ? sowing.bestEvery : sowing.bestYield;
     }
 
     public int gains(int sort) {

@@ -222,6 +222,12 @@ final class BookEdgesTest {
             x.entry(0, 2, much * 1000);
             CHECK.same("judge(-1) of 50 and " + much, x.judge(-1), much <= 49 ? -1 : 1);
         }
+        // The greatest heap there is at first.
+        for (int much = 4949; much <= 4951; much++) {
+            MoonDebts x = Check.landOf("moon 5 0;sort a 50 99 0 5 0 0;sort b 1 0 0 5 0 0;");
+            x.entry(0, 1, much * 1000 + 400);
+            CHECK.same("judge(-1) of " + much, x.judge(-1), much <= 4950 ? -1 : 0);
+        }
         // What the borrower took is in work: b can't lend it on.
         MoonDebts x = Check.landOf(PLAIN);
         x.entry(0, 1, 50000);

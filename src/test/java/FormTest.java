@@ -8,6 +8,8 @@ import java.nio.file.Path;
 import java.util.List;
 import java.util.Set;
 import java.util.TreeSet;
+import java.util.regex.Matcher;
+import java.util.regex.Pattern;
 
 /** The public face of the document, and what of LANGUAGE.md a look at the source can tell. */
 final class FormTest {
@@ -20,10 +22,15 @@ final class FormTest {
         "int count(int)");
     private static final String[] BANNED = {"throw", "throws", "try", "catch", "synchronized", "assert", "protected", "instanceof",
         "Integer.MAX_VALUE", "Object", "hashCode", "toString", "Exact"};
+    private static final Set<String> LIBRARY = Set.of("Math.min", "Math.max", "Arrays.fill", "System.arraycopy", "Integer.bitCount");
     private static final Check CHECK = new Check();
 
     public static void main(String[] args) throws IOException {
         face();
+        for (Class<?> inner : MoonDebts.class.getDeclaredClasses()) {
+            inside(inner);
+        }
+        inside(MoonDebts.class);
         source(Files.readString(Path.of("src/main/java/MoonDebts.java")));
         CHECK.finish();
     }
@@ -59,8 +66,43 @@ final class FormTest {
         CHECK.yes("at most twelve classes", MoonDebts.class.getDeclaredClasses().length < 12);
         for (Class<?> inner : MoonDebts.class.getDeclaredClasses()) {
             CHECK.yes("static and private: " + inner, Modifier.isStatic(inner.getModifiers()) && Modifier.isPrivate(inner.getModifiers()));
-            CHECK.yes("some twenty fields: " + inner, inner.getDeclaredFields().length <= 24);
         }
+    }
+
+    /** What rules 1, 3, 5 and 11 say of the members of a class. */
+    private static void inside(Class<?> type) {
+        int fields = 0;
+        for (Field f : type.getDeclaredFields()) {
+            int modifiers = f.getModifiers();
+            fields += Modifier.isStatic(modifiers) ? 0 : 1;
+            CHECK.yes("a static field is final: " + f, !Modifier.isStatic(modifiers) || Modifier.isFinal(modifiers));
+            Class<?> part = f.getType().isArray() ? f.getType().getComponentType() : f.getType();
+            boolean own = part.getName().startsWith("MoonDebts") && !Modifier.isStatic(modifiers);
+            CHECK.yes("its type: " + f, own || part == int.class || part == boolean.class || part == byte.class);
+        }
+        CHECK.yes("some twenty fields: " + type, fields <= 20);
+        for (Method m : type.getDeclaredMethods()) {
+            CHECK.yes("at most seven parameters: " + m, m.getParameterCount() <= 7);
+            boolean named = FACE.stream().anyMatch(row -> row.contains(" " + m.getName() + "("));
+            CHECK.yes("no other method bears a public name: " + m, !named || Modifier.isPublic(m.getModifiers()));
+        }
+    }
+
+    private static void methodsStayShort(String code) {
+        String[] lines = code.split("\n");
+        int begun = -1;
+        String close = "";
+        for (int i = 0; i < lines.length; i++) {
+            Matcher head = Pattern.compile("^( {4}| {8})(?! )[\\w\\[\\] ]+\\([^;]*\\) \\{$").matcher(lines[i]);
+            if (begun < 0 && head.find() && !lines[i].contains(" class ")) {
+                begun = i;
+                close = head.group(1) + "}";
+            } else if (begun >= 0 && lines[i].equals(close)) {
+                CHECK.yes("some sixty lines: " + lines[begun], i - begun < 60);
+                begun = -1;
+            }
+        }
+        CHECK.same("each method has an end", begun, -1);
     }
 
     private static void source(String text) {
@@ -70,6 +112,11 @@ final class FormTest {
         }
         CHECK.no("a lambda or a method reference", code.contains("->") || code.contains("::"));
         CHECK.no("texts joined by +", code.matches("(?s).*(\"\\s*\\+|\\+\\s*\").*"));
+        for (Matcher call = Pattern.compile("\\b([A-Z]\\w*)\\.([a-z]\\w*)\\(").matcher(code); call.find();) {
+            boolean own = call.group(1).equals("Sowing");
+            CHECK.yes("a call of the library: " + call.group(), own || LIBRARY.contains(call.group(1) + "." + call.group(2)));
+        }
+        methodsStayShort(code);
         CHECK.same("imports", code.split("import ", -1).length - 1, 1);
         CHECK.yes("import of Arrays", code.contains("import java.util.Arrays;"));
         CHECK.yes("signs 0 to 127", text.chars().allMatch(sign -> sign < 128));

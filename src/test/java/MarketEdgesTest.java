@@ -32,6 +32,7 @@ final class MarketEdgesTest {
         marketAsked();
         loanAsked();
         imagesKeepAll();
+        imagesKeepLoans();
         imagesAsked();
         CHECK.finish();
     }
@@ -584,6 +585,38 @@ final class MarketEdgesTest {
         CHECK.yes("on(2)", x.on(2));
         CHECK.same("NIGHT of 2", x.market(0), 15);
         CHECK.same("owed of 2", x.market(2), first[1]);
+    }
+
+    private static void imagesKeepLoans() {
+        CHECK.about("An IMAGE (0 .. 2) keeps .. LOANS (all of each)");
+        MoonDebts x = Check.landOf("moon 5 0;strike 4 1;sort a 1 99 0 6 0 0;sort b 1 99 0 7 0 0;sort c 1 99 0 8 0 0;");
+        int[] who = {1, 12, 20, 10};
+        for (int i = 0; i < 4; i++) {
+            x.lend(who[i], i, 16 + i, 100 * i);
+        }
+        CHECK.yes("image(2)", x.image(2));
+        int[][] kept = {{0, 1, 0, 16, 16, 7}, {1, 2, 1, 17, 34, 8}, {2, 0, 2, 18, 54, 6}, {1, 0, 3, 19, 76, 6}};
+        x.go(8);
+        for (int i = 0; i < 5; i++) {
+            CHECK.same("another LOAN", x.lend(21, 4, 1, 7), i);
+        }
+        CHECK.yes("on(2)", x.on(2));
+        for (int loan = 0; loan < 5; loan++) {
+            for (int what = 0; what < 6; what++) {
+                CHECK.same("loan(" + loan + ", " + what + ")", x.loan(loan, what), loan < 4 ? kept[loan][what] : -1);
+            }
+        }
+        int[] heaps = {99 - 16, 99 - 17 - 19, 99 - 18};
+        for (int sort = 0; sort < 3; sort++) {
+            CHECK.same("market(1" + sort + ")", x.market(10 + sort), heaps[sort]);
+            CHECK.same("market(2" + sort + ")", x.market(20 + sort), 0);
+        }
+        // What comes later is no part of the IMAGE.
+        x.go(5);
+        CHECK.yes("on(2) once more", x.on(2));
+        CHECK.same("NIGHT", x.market(0), 0);
+        CHECK.same("owed", x.market(2), 16 + 34 + 54 + 76);
+        CHECK.same("LOST", x.market(3), 0);
     }
 
     /** What comes behind two MOONS. */

@@ -122,6 +122,8 @@ final class SowingEdgesTest {
         CHECK.same("half", priceOf("moon 5 0;strike 8 1;", 6, 0), 100);
         CHECK.same("996", priceOf("moon 5 15;strike 1 1;", 6, 0), 1);
         CHECK.same("937", priceOf("moon 5 0;strike 1 1;", 6, 0), 7);
+        // 359 times 961 is 344999: by one too little for 345.
+        CHECK.same("961", priceOf("moon 30 3;strike 1 1;wait 49;", 50, 4), 260);
     }
 
     private static void noLeastPrice() {
@@ -314,6 +316,12 @@ final class SowingEdgesTest {
         best("moon 5 0;strike 16 1;sort a 1 1 1 60 1 0;", 0, 1, 5);
         // LEAST PRICES 10 and 20, MOSTS 60 and 64: a goes ahead of b, who brings more, but on night 4, if 1 of 16 is struck at night 5.
         best("moon 5 0;wait 50;sort r 1 50 0 1 0 0;sort a 1 0 50 2 30 0;sort b 1 0 50 4 32 16;", 1, 1, 4 * 30 + 32);
+        // Both MOSTS are 400, so a goes ahead of b, who brings more, but on the last night, if that alone is struck.
+        best("moon 5 0;sort a 1 10 10 2 50 0;sort b 1 0 10 1 60 0;", 1, 1, 4 * 50 + 60);
+        best("moon 5 0;sort a 1 10 10 2 50 0;sort b 1 0 10 2 60 16;", 1, 1, 4 * 50 + 60);
+        best("moon 30 0;sort b 1 0 10 1 50 0;sort a 1 10 10 2 60 0;", 0, 1, 30 * 50);
+        // 60 nights of WORK see both MOONS of 30 from night 1 on, so a is struck each night with E 1, and with E 2 but on night 0.
+        best("moon 30 0;sort a 1 10 10 60 50 0;sort b 1 0 10 1 60 0;", 1, 1, 30 * 60);
     }
 
     private static void best(String text, int s, int e, int yield) {
@@ -343,6 +351,13 @@ final class SowingEdgesTest {
         MoonDebts x = Check.landOf("moon 5 0;sort a 2 5 5 2 5 0;sort b 2 0 5 1 1 0;");
         CHECK.same("gains(0)", x.gains(0), -10);
         CHECK.same("gains(1)", x.gains(1), 10);
+        // With the least S a MOST of 0 is below the LEAST PRICE on the last night.
+        MoonDebts least = Check.landOf("moon 5 15;strike 1 1;sort a 2 5 5 2 0 0;");
+        CHECK.same("gains(0) of S 1", least.gains(0), -10);
+        // a goes ahead of b, of like ones the least SORT, if nothing is struck and if it is.
+        MoonDebts like = Check.landOf("moon 5 0;strike 1 1;sort a 1 5 5 1 1 0;sort b 1 0 5 2 1 0;");
+        CHECK.same("gains(0) of like ones", like.gains(0), 0);
+        CHECK.same("gains(1) of like ones", like.gains(1), 0);
         for (int sort : new int[] {Integer.MIN_VALUE, -2, -1, 2, 3, 5, 6, Integer.MAX_VALUE}) {
             CHECK.same("gains(" + sort + ")", x.gains(sort), -999999);
             CHECK.same("gains(" + sort + ") without a LAND", new MoonDebts().gains(sort), -999999);

@@ -214,6 +214,7 @@ final class SumsEdgesTest {
         MoonDebts x = new MoonDebts();
         for (int d : new int[] {MIN, -1, 0, 99999, 100000, MAX}) {
             CHECK.same("part(" + d + ", 20, 0)", x.part(d, 20, 0), d >= 0 && d <= 99999 ? d : -1);
+            CHECK.same("part(" + d + ", 2, 1)", x.part(d, 2, 1), d >= 0 && d <= 99999 ? d / 2 : -1);
         }
         for (int y = -2; y <= 23; y++) {
             for (int k : new int[] {MIN, -1, 0, y - 1, y, y + 1, MAX}) {
@@ -264,6 +265,7 @@ final class SumsEdgesTest {
         MoonDebts x = new MoonDebts();
         for (int d : new int[] {MIN, -1, 0, 1, 99999, 100000, MAX}) {
             CHECK.same("shrunk(" + d + ", 2000, 0, 1)", x.shrunk(d, 2000, 0, 1), d >= 0 && d <= 99999 ? d : -1);
+            CHECK.same("shrunk(" + d + ", 100, 0, 1)", x.shrunk(d, 100, 0, 1), d >= 0 && d <= 99999 ? 0 : -1);
         }
         for (int p : new int[] {MIN, -1, 0, 1, 15, 16, 17, MAX}) {
             CHECK.same("shrunk(16, 2000, " + p + ", 1)", x.shrunk(16, 2000, p, 1), p >= 0 && p <= 16 ? 16 - p : -1);

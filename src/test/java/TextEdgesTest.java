@@ -26,7 +26,9 @@ final class TextEdgesTest {
         endsTooEarly();
         noMoonOrNoSort();
         onceEach();
+        readAnew();
         takesThePlace();
+        nothingIsDueAnyMore();
         newObject();
         feed();
         feedTooMuch();
@@ -225,6 +227,9 @@ final class TextEdgesTest {
         fault(MOON + "sort abcdefgh 1 1 1 1 1 1;sort xbcdefgh 1 1 1 1 1 1;", -1);
         fault(MOON + "sort abcdefgh 1 1 1 1 1 1;sort abcdefg 1 1 1 1 1 1;", -1);
         fault(MOON + "sort abcdefgh 1 1 1 1 1 1;sort abcdefgh 1 1 1 1 1 1;", 40);
+        // What stands ahead of a NAME has no part in it.
+        fault(MOON + SORT + "sort\na 1 1 1 1 1 1;", 33);
+        fault(MOON + SORT + "sort  a 1 1 1 1 1 1;", 34);
         String five = MOON + Check.sorts(5);
         for (char name = 'a'; name <= 'f'; name++) {
             fault(five + "sort " + name + " 1 1 1 1 1 1;", name == 'f' ? -1 : five.length() + 5);
@@ -375,9 +380,8 @@ final class TextEdgesTest {
         for (String text : texts) {
             fault(text, text.length());
             fault(text + " \n ", text.length() + 3);
-            if (!text.startsWith("moon")) {
-                fault(MOON + "sort z 1 1 1 1 1 1;" + text, 28 + text.length());
-            }
+            String ahead = text.startsWith("moon") ? "sort z 1 1 1 1 1 1;" : MOON + "sort z 1 1 1 1 1 1;";
+            fault(ahead + text, ahead.length() + text.length());
         }
         // A word that is cut can't stand.
         fault("moo", 0);
@@ -423,6 +427,47 @@ final class TextEdgesTest {
         CHECK.same("fault() once more", x.fault(), -1);
         CHECK.same("land()", x.land(), 1);
         CHECK.same("TURNS", x.count(1), 1);
+    }
+
+    private static void readAnew() {
+        CHECK.about("16 and 1 without / 0 without (what a text ahead told does not stay)");
+        MoonDebts x = new MoonDebts();
+        Check.text(x, "moon 30 15;strike 3 4;wait 50;" + SPARES + Check.turns(12, 1) + Check.sorts(5));
+        CHECK.same("fault()", x.fault(), -1);
+        Check.text(x, "moon 5 0;sort a 1 1 1 10 1 1;");
+        CHECK.same("land()", x.land(), 1);
+        int[] due = {1, 0, 5, 0, 16, 1, 0};
+        for (int what = 0; what < due.length; what++) {
+            CHECK.same("count(" + what + ")", x.count(what), due[what]);
+        }
+        // All is struck and a quarter is BACK by WORD: 400 bring 100; with the wait no price would do.
+        Check.text(x, "moon 5 0;wait 50;sort a 1 1 1 10 1 4;");
+        CHECK.same("fault()", x.fault(), -1);
+        Check.text(x, "moon 5 0;sort a 1 1 1 10 1 4;");
+        CHECK.same("land()", x.land(), 1);
+        CHECK.same("LEAST PRICE without a wait", x.back(0, 0, 1), 300);
+    }
+
+    private static void nothingIsDueAnyMore() {
+        CHECK.about("A LAND .. takes the place of the one ahead: .. nothing is owed");
+        String text = "moon 5 0;sort a 2 50 0 9 0 0;sort b 3 9 9 9 9 0;";
+        MoonDebts x = Check.landOf(text);
+        for (int i = 0; i < 40; i++) {
+            x.lend(1, i % 5, 1, 400);
+        }
+        Check.text(x, text);
+        CHECK.same("land()", x.land(), 2);
+        x.go(9);
+        CHECK.same("heap of a when those ahead were due", x.market(10), 100);
+        CHECK.same("heap of b when those ahead were due", x.market(11), 27);
+        CHECK.same("LOST", x.market(3), 0);
+        // So it is behind an image of a market without LOANS.
+        x.image(0);
+        x.lend(1, 0, 50, 100);
+        x.on(0);
+        x.go(9);
+        CHECK.same("heap of a", x.market(10), 100);
+        CHECK.same("heap of b", x.market(11), 27);
     }
 
     private static void takesThePlace() {
@@ -587,6 +632,15 @@ final class TextEdgesTest {
         CHECK.same("fault() of the first 28 alone", x.fault(), -1);
         CHECK.yes("end(27)", x.end(27));
         CHECK.same("fault() of the first 27 alone", x.fault(), 27);
+        // A TOKEN that is cut ends where the text does, though more of it was fed.
+        Check.text(x, "moon 55");
+        CHECK.same("fault() of P 55", x.fault(), 5);
+        CHECK.yes("end(6)", x.end(6));
+        CHECK.same("fault() of P 5", x.fault(), 6);
+        Check.text(x, "sort abcdefghi");
+        CHECK.same("fault() of nine letters", x.fault(), 5);
+        CHECK.yes("end(13)", x.end(13));
+        CHECK.same("fault() of eight letters", x.fault(), 13);
     }
 
     private static void landWithFault() {

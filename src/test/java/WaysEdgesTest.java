@@ -52,10 +52,13 @@ final class WaysEdgesTest {
         CHECK.about("CHEAPEST by their A together");
         for (int direct = 5; direct <= 9; direct++) {
             MoonDebts x = Check.landOf(HEAD + "spare purse;turn loan purse " + direct + ";turn loan sale 3;turn sale purse 4;");
+            MoonDebts last = Check.landOf(HEAD + "spare purse;turn loan sale 3;turn sale purse 4;turn loan purse " + direct + ";");
             if (direct <= 7) {
                 way(x, 0, direct, 0);
+                way(last, 0, direct, 2);
             } else {
                 way(x, 0, 7, 1, 2);
+                way(last, 0, 7, 0, 1);
             }
         }
     }
@@ -67,6 +70,8 @@ final class WaysEdgesTest {
         way(x, 0, 6, 6);
         MoonDebts y = Check.landOf(HEAD + "spare purse;turn loan pledge 0;turn pledge sale 0;turn sale purse 6;turn loan gift 1;turn gift purse 5;");
         way(y, 0, 6, 3, 4);
+        MoonDebts last = Check.landOf(HEAD + "spare purse;turn sale purse 1;turn pledge sale 1;turn loan pledge 1;turn loan purse 3;");
+        way(last, 0, 3, 3);
         // TURNS for nothing go round in a ring, and no way has a TURN too many.
         MoonDebts ring = Check.landOf(HEAD + "spare purse;turn loan pledge 0;turn pledge loan 0;turn pledge purse 0;");
         way(ring, 0, 0, 0, 2);
@@ -171,6 +176,11 @@ final class WaysEdgesTest {
         CHECK.same("words(0, 1)", part.words(0, 1), 8 + 16);
         CHECK.same("words(0, 3)", part.words(0, 3), 8 + 16);
         CHECK.same("words(0, 4)", part.words(0, 4), 2 + 8 + 16);
+        // Which way is the CHEAPEST is told as before, though words were sought.
+        MoonDebts like = Check.landOf(HEAD + "spare gift;spare purse;turn loan gift 5;turn loan purse 5;turn gift purse 0;");
+        way(like, 0, 5, 0);
+        CHECK.same("words(0, 5)", like.words(0, 5), 24);
+        way(like, 0, 5, 0);
         // The LAND itself is as it was.
         CHECK.same("count(6)", part.count(6), 2 + 8 + 16);
         CHECK.same("round(0, -1)", part.round(0, -1), 1);
