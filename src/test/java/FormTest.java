@@ -5,8 +5,11 @@ import java.lang.reflect.Method;
 import java.lang.reflect.Modifier;
 import java.nio.file.Files;
 import java.nio.file.Path;
+import java.util.Arrays;
 import java.util.List;
+import java.util.Map;
 import java.util.Set;
+import java.util.TreeMap;
 import java.util.TreeSet;
 import java.util.regex.Matcher;
 import java.util.regex.Pattern;
@@ -88,21 +91,38 @@ final class FormTest {
         }
     }
 
-    private static void methodsStayShort(String code) {
+    /** What stands in the methods of each name; methods of one name in two classes are told together. */
+    private static Map<String, String> methodsStayShort(String code) {
         String[] lines = code.split("\n");
+        Map<String, String> bodies = new TreeMap<>();
         int begun = -1;
         String close = "";
+        String name = "";
         for (int i = 0; i < lines.length; i++) {
-            Matcher head = Pattern.compile("^( {4}| {8})(?! )[\\w\\[\\] ]+\\([^;]*\\) \\{$").matcher(lines[i]);
+            Matcher head = Pattern.compile("^( {4}| {8})(?! )[\\w\\[\\] ]*?(\\w+)\\([^;]*\\) \\{$").matcher(lines[i]);
             if (begun < 0 && head.find() && !lines[i].contains(" class ")) {
                 begun = i;
                 close = head.group(1) + "}";
+                name = head.group(2);
             } else if (begun >= 0 && lines[i].equals(close)) {
                 CHECK.yes("some sixty lines: " + lines[begun], i - begun < 60);
+                bodies.merge(name, String.join("\n", Arrays.copyOfRange(lines, begun + 1, i)), String::concat);
                 begun = -1;
             }
         }
         CHECK.same("each method has an end", begun, -1);
+        return bodies;
+    }
+
+    /** How deep the calls go from a method on, it and those of the library among them; a recursion has no end but most. */
+    private static int depth(Map<String, String> bodies, String name, int most) {
+        int deepest = 0;
+        for (Matcher call = Pattern.compile("\\b(?<!new )([a-z]\\w*)\\(").matcher(bodies.getOrDefault(name, "")); call.find();) {
+            if (deepest < most) {
+                deepest = Math.max(deepest, depth(bodies, call.group(1), most - 1));
+            }
+        }
+        return deepest + 1;
     }
 
     private static void source(String text) {
@@ -116,7 +136,12 @@ final class FormTest {
             boolean own = call.group(1).equals("Sowing");
             CHECK.yes("a call of the library: " + call.group(), own || LIBRARY.contains(call.group(1) + "." + call.group(2)));
         }
-        methodsStayShort(code);
+        Map<String, String> bodies = methodsStayShort(code);
+        for (String row : FACE) {
+            String name = row.substring(row.indexOf(' ') + 1, row.indexOf('('));
+            CHECK.yes("the source of " + row, bodies.containsKey(name));
+            CHECK.yes("calls go at most eight deep: " + row, depth(bodies, name, 12) <= 8);
+        }
         CHECK.same("imports", code.split("import ", -1).length - 1, 1);
         CHECK.yes("import of Arrays", code.contains("import java.util.Arrays;"));
         CHECK.yes("signs 0 to 127", text.chars().allMatch(sign -> sign < 128));
